@@ -950,7 +950,7 @@ public final class FairSeats {
             }
             for (int group = 1; group < count; group++) {
                 int smaller = group & group - 1;
-                int heap = Integer.numberOfTrailingZeros(group);
+                int heap = lowestHeap(group);
                 common[group] = common[smaller] & heaps.sets[heap];
                 anyone[group] = anyone[smaller] | heaps.sets[heap];
                 papers[group] = papers[smaller] + heaps.papers[heap];
@@ -976,9 +976,13 @@ public final class FairSeats {
             }
         }
 
+        private static int lowestHeap(int group) {
+            return Integer.bitCount((group & -group) - 1);
+        }
+
         private void countMostHad(int committee) {
             for (int group = 1; group < count; group++) {
-                int has = Integer.bitCount(sets[Integer.numberOfTrailingZeros(group)] & committee);
+                int has = Integer.bitCount(sets[lowestHeap(group)] & committee);
                 mostHad[group] = Math.max(mostHad[group & group - 1], has);
             }
         }

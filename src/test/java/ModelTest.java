@@ -113,8 +113,22 @@ public final class ModelTest {
         for (int w = -2; w < 40; w++) same("told " + w, x.told(w), y.told(w));
     }
 
+    /** Six HEAPS, so that the false papers of TURN need a row of their own. */
+    private void turnsOfSix() {
+        for (int h = 0; h < 6; h++) {
+            int a = set(), b = any(1, papersMost);
+            same("heap " + a + " " + b, x.heap(a, b), y.heap(a, b));
+        }
+        int n = any(1, 4);
+        same("seats " + n, x.seats(n), y.seats(n));
+        for (int k = 0; k < 30; k++) turnOnce();
+    }
+
     public static void main(String[] args) {
         Check check = new Check("ModelTest");
+        for (int seed = 0; seed < 150; seed++) {
+            new ModelTest(check, seed, 4 + seed % 9).turnsOfSix();
+        }
         for (int seed = 0; seed < 900; seed++) {
             ModelTest t = new ModelTest(check, seed, seed % 5 == 0 ? 100 : seed % 2 == 0 ? 4 : 12);
             for (int k = 0; k < 120; k++) t.step();

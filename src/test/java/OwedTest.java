@@ -79,6 +79,17 @@ public final class OwedTest {
         breachIs(x, 2, 196, 1, 2);
         Check.hall(x, "a<1");
         breachIs(x, 2, 19, none, none);
+        // The first group is owed two and has one; the second is owed one and has nothing: the least l goes ahead.
+        FairSeats y = new FairSeats();
+        y.seats(3);
+        y.heap(3, 8);
+        y.heap(4, 4);
+        breachIs(y, 0, 25, 1, 2);
+        breachIs(y, 1, 25, 1, 2);
+        breachIs(y, 2, 25, 1, 2);
+        breachIs(y, 1, 13, 2, 1);
+        breachIs(y, 2, 13, 2, 1);
+        breachIs(y, 0, 13, none, none);
     }
 
     private static void breachRefusals() {

@@ -55,6 +55,8 @@ public final class PapersTest {
         x.heap(2, 7);
         CHECK.due("4 drop", x.drop(), 1);
         CHECK.due("4 papers left", x.told(1), 5);
+        CHECK.due("4 WRONGED are left", x.of(12, 2), 5);
+        CHECK.due("4 WORTH is left", x.of(3, 1), 300);
         CHECK.due("4 the last is gone", x.told(21), FairSeats.NONE);
         CHECK.due("4 change of the one that went", x.change(1, 0, 1), FairSeats.UNKNOWN);
         CHECK.due("4 its number comes again", x.heap(4, 1), 1);
@@ -86,6 +88,12 @@ public final class PapersTest {
         x.heap(15, 3);
         x.seats(4);
         CHECK.due("6 worths count", x.of(15, 1), 3 * (60 + 60 + 15));
+        FairSeats y = new FairSeats();
+        CHECK.due("6 below the one behind", y.worth(2, 14), FairSeats.OUTSIDE);
+        CHECK.due("6 the first goes down", y.worth(0, 40), 60);
+        CHECK.due("6 told(10)", y.told(10), 40);
+        CHECK.due("6 above the one ahead", y.worth(1, 41), FairSeats.OUTSIDE);
+        CHECK.due("6 as the one ahead", y.worth(1, 40), 30);
     }
 
     private static void signs() {

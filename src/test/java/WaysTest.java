@@ -76,6 +76,8 @@ public final class WaysTest {
         FairSeats few = with(3, 128, 2);
         order("13 LOAD, no papers come behind", few, 2, 7, 0, 1);
         share("14 no papers weigh on nobody", few.load(0, 3, 0), few.load(0, 3, 1), 1, 2);
+        order("13 LOAD, one paper", with(2, 128, 1), 2, 7, 0);
+        order("13 LOAD, one paper each", with(2, 128, 1, 64, 1), 2, 6, 7);
         order("13 LOAD, without papers", with(4), 2, 0, 1, 2, 3);
     }
 
@@ -102,7 +104,7 @@ public final class WaysTest {
     }
 
     private static void poorPurses() {
-        // b is paid by 6 papers with 3/2 each; then a's 3 old ones have 3/2 and its 7 new ones 3.
+        // b is paid by 6 papers with 3/2 each; then 3 of a's papers have 3/2 and 2 have 3: RHO is 9/4.
         FairSeats x = with(3, 3, 3, 2, 3, 1, 2, 4, 1);
         order("13 SHARE, two kinds of purses", x, 3, 1, 0, 2);
         share("15 what is left", x.purse(0, 1, 0), x.purse(0, 1, 1), 3, 2);
@@ -140,6 +142,13 @@ public final class WaysTest {
         order("13 MEND, the HALL does not matter", x, 5, 0, 2);
         order("13 MEND, by numbers", with(3, 192, 10, 4, 6), 5, 2, 6, 7);
         order("13 GREEDY, one by one", with(3, 192, 10, 4, 6), 1, 6, 2, 7);
+        // Once b is there, a is worth more than c.
+        FairSeats y = with(2, 5, 7, 6, 6, 1, 5, 2, 6);
+        y.worth(3, 0);
+        y.worth(2, 0);
+        y.worth(1, 0);
+        order("13 GREEDY ahead of swaps", y, 1, 2, 1);
+        order("13 MEND, the first one comes in", y, 5, 0, 1);
         order("13 MEND, without papers", with(4), 5, 0, 1, 2, 3);
     }
 
