@@ -2,18 +2,9 @@
 public final class CanBeTest {
     private static final Check CHECK = new Check("CanBeTest");
 
-    private static FairSeats with(int seats, int... setsAndPapers) {
-        FairSeats x = new FairSeats();
-        x.seats(seats);
-        for (int i = 0; i + 1 < setsAndPapers.length; i += 2) {
-            x.heap(setsAndPapers[i], setsAndPapers[i + 1]);
-        }
-        return x;
-    }
-
     private static void kept() {
         // Both heaps are owed one.
-        FairSeats x = with(2, 3, 5, 12, 5);
+        FairSeats x = Check.with(2, 3, 5, 12, 5);
         int[] due = {5, 6, 9, 10};
         for (int law = 0; law < 3; law++) {
             CHECK.due("19 how many", x.kept(law, -1), 4);
@@ -28,14 +19,14 @@ public final class CanBeTest {
         CHECK.due("19 law -1", x.kept(-1, -1), FairSeats.UNKNOWN);
         Check.hall(x, "a<1;c<1");
         CHECK.due("19 by a HALL", x.kept(0, -1) * 100 + x.kept(0, 0), 110);
-        FairSeats y = with(3, 7, 4, 11, 4, 16, 4);
+        FairSeats y = Check.with(3, 7, 4, 11, 4, 16, 4);
         CHECK.due("19 c, d, e holds law 1", y.kept(1, -1) - y.kept(2, -1), 1);
-        CHECK.due("19 all without papers", with(4).kept(2, -1), 70);
-        CHECK.due("19 the last of them", with(4).kept(2, 69), 240);
+        CHECK.due("19 all without papers", Check.with(4).kept(2, -1), 70);
+        CHECK.due("19 the last of them", Check.with(4).kept(2, 69), 240);
     }
 
     private static void least() {
-        FairSeats x = with(2, 1, 20, 2, 15, 4, 10, 6, 5);
+        FairSeats x = Check.with(2, 1, 20, 2, 15, 4, 10, 6, 5);
         CHECK.due("20 the COMMITTEE", x.least(0), 3);
         CHECK.due("20 WRONGED", x.least(1), 10);
         Check.hall(x, "ab<2");
@@ -52,7 +43,7 @@ public final class CanBeTest {
     }
 
     private static void nearest() {
-        FairSeats x = with(2, 3, 5, 12, 5);
+        FairSeats x = Check.with(2, 3, 5, 12, 5);
         CHECK.due("21 itself", x.nearest(0, 10), 10);
         CHECK.due("21 one other, the least as bits", x.nearest(0, 3), 5);
         CHECK.due("21 one other", x.nearest(1, 8 + 128), 9);
@@ -69,7 +60,7 @@ public final class CanBeTest {
     }
 
     private static void more() {
-        FairSeats x = with(1, 3, 6, 5, 6, 2, 5, 4, 5);
+        FairSeats x = Check.with(1, 3, 6, 5, 6, 2, 5, 4, 5);
         x.worth(3, 0);
         x.worth(2, 0);
         x.worth(1, 0);
@@ -99,14 +90,14 @@ public final class CanBeTest {
 
     private static void moreOfShare() {
         // Six papers pay one of two seats and two of three; c comes by MOST, or is paid.
-        FairSeats x = with(2, 3, 6, 4, 3);
+        FairSeats x = Check.with(2, 3, 6, 4, 3);
         CHECK.due("22 SHARE ahead", x.choose(3, -1), 3);
         CHECK.due("22 SHARE, who comes in", x.more(3, 0), 4);
         CHECK.due("22 SHARE, nobody goes out", x.more(3, 1), 0);
     }
 
     private static void turn() {
-        FairSeats x = with(2, 3, 30, 4, 20, 8, 11);
+        FairSeats x = Check.with(2, 3, 30, 4, 20, 8, 11);
         int[][] due = {{0, 0, 0, 0}, {0, 0, 2, 6}, {0, 0, 3, 10}, {0, 0, 7, 16}, {2, 0, 2, 0}, {2, 0, 3, 10},
             {3, 0, 2, 6}, {4, 0, 3, 10}, {5, 0, 7, 16}, {0, 2, 2, 11}, {1, 2, 7, -6}, {0, 1, 3, 20}, {0, 1, 7, -6}};
         for (int[] d : due) {
@@ -128,13 +119,13 @@ public final class CanBeTest {
     }
 
     private static void turnOfAll() {
-        CHECK.due("23 alike, and behind", with(1, 1, 5, 2, 5).turn(0, 1, 2), FairSeats.NONE);
-        CHECK.due("23 alike, and ahead", with(1, 2, 4, 4, 5).turn(0, 1, 0), 4);
-        CHECK.due("23 all papers alone do", with(1, 2, 4, 4, 5).turn(0, 1, 3), 5);
-        FairSeats y = with(1, 4, 5);
+        CHECK.due("23 alike, and behind", Check.with(1, 1, 5, 2, 5).turn(0, 1, 2), FairSeats.NONE);
+        CHECK.due("23 alike, and ahead", Check.with(1, 2, 4, 4, 5).turn(0, 1, 0), 4);
+        CHECK.due("23 all papers alone do", Check.with(1, 2, 4, 4, 5).turn(0, 1, 3), 5);
+        FairSeats y = Check.with(1, 4, 5);
         CHECK.due("23 one HEAP", y.turn(0, 0, 0), 3);
         CHECK.due("23 one HEAP, behind", y.turn(0, 0, 7), 3);
-        FairSeats six = with(2, 1, 100, 2, 100, 4, 100, 8, 100, 16, 100, 32, 100);
+        FairSeats six = Check.with(2, 1, 100, 2, 100, 4, 100, 8, 100, 16, 100, 32, 100);
         for (int way = 0; way < 6; way++) {
             CHECK.due("23 six full HEAPS, way " + way, six.turn(way, 0, 7), FairSeats.NONE);
             CHECK.due("23 six full HEAPS, two, way " + way, six.turn(way, 0, 2), 1);
